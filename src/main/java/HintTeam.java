@@ -1297,10 +1297,10 @@ public final class HintTeam {
     /** A position as it is told when all cards are seen; hands are sets of cards, a bit each. */
     private static final class Position {
         Rules rules;
-        int drawnCards;
         final long[] hands = new long[MOST_PLAYERS];
         private final int[] tops = new int[MOST_COLORS];
         private int tokens;
+        private int drawnCards;
         private int turn;
         private int turnsLeft;
 
@@ -1362,7 +1362,12 @@ public final class HintTeam {
             return turnsLeft == 0 || points() >= rules.colors * rules.ranks;
         }
 
-        boolean holds(int card) {
+        /** The hand of the player whose turn it is. */
+        long cardsInTurn() {
+            return hands[turn];
+        }
+
+        private boolean holds(int card) {
             return card >= 0 && card < MOST_CARDS && (hands[turn] >> card & 1) != 0;
         }
 
@@ -1521,11 +1526,12 @@ public final class HintTeam {
                 if (here.isLast()) {
                     continue;
                 }
-                for (int card = 0; card < here.drawnCards; card++) {
-                    if (here.holds(card)) {
-                        addBehind(PLAY, card);
-                        addBehind(DISCARD, card);
-                    }
+                long cards = here.cardsInTurn();
+                for (int k = 0; k < MOST_HAND && cards != 0; k++) {
+                    int card = Long.bitCount((cards & -cards) - 1);
+                    addBehind(PLAY, card);
+                    addBehind(DISCARD, card);
+                    cards &= cards - 1;
                 }
                 addBehind(HINT, NONE);
                 addBehind(PASS, NONE);

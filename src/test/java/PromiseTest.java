@@ -871,7 +871,14 @@ public final class PromiseTest {
         due("tokens that came back tell positions", of("game 1 1 2 1;deck a1 a1;tokens 9 5").positions(), 10);
         HintTeam big = of("game 4 5 4 5;deck " + "a1 b2 c3 d4 ".repeat(10));
         due("too many", big.positions(), HintTeam.UNKNOWN);
+        HintTeam most = of("game 2 2 2 2;deck b1 b1 a1 a2 a2 b2 a2 b2;tokens 2 1");
+        due("just not too many", most.positions(), 4000);
+        HintTeam more = of("game 1 3 2 2;deck a1 a3 a1 a2 a3 a3 a3 a2;tokens 3 3");
+        due("one too many", more.positions(), HintTeam.UNKNOWN);
         promise = 34;
+        due("just not too many", most.value(), 4);
+        due("one too many", more.value(), HintTeam.UNKNOWN);
+        due("one less behind a move", more.valueBehind(0, 0), 3);
         due("too many", big.value(), HintTeam.UNKNOWN);
         due("nothing changed", big.count(8), 0);
         HintTeam over = of("game 2 1 2 1;deck a1 b1;lives 1");
