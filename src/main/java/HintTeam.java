@@ -158,7 +158,7 @@ public final class HintTeam {
     }
 
     public boolean isUseless(int color, int rank) throws IndexOutOfBoundsException {
-        return game.hasNoUse(needKind(color, rank));
+        return !game.isOfUse(needKind(color, rank));
     }
 
     public boolean isCritical(int color, int rank) throws IndexOutOfBoundsException {
@@ -894,10 +894,11 @@ public final class HintTeam {
 
         /** The card at a place of a hand, or NONE. */
         int cardAt(int player, int place) {
-            if (place < 0 || place >= MOST_HAND || place >= sizeOf(player)) {
+            if (player < 0 || player >= MOST_PLAYERS || place < 0 || place >= handSizes[player]) {
                 return NONE;
             }
-            return hands[player * MOST_HAND + place];
+            int index = player * MOST_HAND + place;
+            return index < hands.length ? hands[index] : NONE;
         }
 
         int kindOf(int card) {
@@ -956,18 +957,26 @@ public final class HintTeam {
             return topOf(kind / MOST_RANKS) > kind % MOST_RANKS;
         }
 
-        boolean hasNoUse(int kind) {
-            return isOnPile(kind) || kind % MOST_RANKS >= reachableTop(kind / MOST_RANKS);
+        /** Whether a card of the kind can still come onto its pile, now or later. */
+        boolean isOfUse(int kind) {
+            int below = kind % MOST_RANKS;
+            int color = kind / MOST_RANKS;
+            return below >= topOf(color) && below < reachableTop(color);
         }
 
+        /** Whether the heap leaves but one card of a kind that is of use. */
         boolean isLastOne(int kind) {
-            return !hasNoUse(kind) && notInHeap(kind) == 1;
+            return notInHeap(kind) == 1 && isOfUse(kind);
         }
 
         /** The rank that a color's pile can still come to. */
         private int reachableTop(int color) {
-            int rank = topOf(color);
-            for (int k = rank; k < rules.ranks && notInHeap(color * MOST_RANKS + k) > 0; k++) {
+            if (color < 0 || color >= MOST_COLORS) {
+                return 0;
+            }
+            int rank = tops[color];
+            int first = color * MOST_RANKS;
+            for (int k = first + rank; k < first + rules.ranks && k < KINDS && heap[k] < rules.copies[k]; k++) {
                 rank++;
             }
             return rank;

@@ -17,8 +17,9 @@ public final class FaceTest {
     private static final Path SOURCE = Path.of("src/main/java/HintTeam.java");
     private static final Path DOCUMENT = Path.of("../shared/DOC.md");
     private static final String[] FORBIDDEN = {"->", "::", "\\btry\\b", "\\bcatch\\b", "\\bfinally\\b",
-        "\\bsynchronized\\b", "\\bassert\\b", "\\bstatic \\{", "\\bdouble\\b", "\\bfloat\\b", "\\bimport (?!java\\.util\\.)",
-        "System\\.(?!arraycopy)", "Exact\\(", "\\bhashCode\\b", "\\btoString\\(\\)", "\\.equals\\(", "\" \\+", "\\+ \""};
+        "\\bsynchronized\\b", "\\bassert\\b", "\\bstatic \\{", "\\bdouble\\b", "\\bfloat\\b",
+        "\\bimport (?!java\\.util\\.)", "System\\.(?!arraycopy)", "Exact\\(", "\\bhashCode\\b", "\\btoString\\(\\)",
+        "\\.equals\\(", "\" \\+", "\\+ \""};
 
     private static int wrong;
 
