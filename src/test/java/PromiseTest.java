@@ -1,21 +1,5 @@
-import java.nio.charset.StandardCharsets;
-
 /** For each promise of the document what it asks for, worked out by hand: ordinary inputs, edges, wrong inputs. */
-public final class PromiseTest {
-    private static final Class<?> INDEX = IndexOutOfBoundsException.class;
-    private static final Class<?> ARGUMENT = IllegalArgumentException.class;
-    /** Two colors, three ranks; player 0 has a1 b1, player 1 a2 b2; a3 b3 a1 b1 are to be drawn. */
-    private static final String PLAIN = "game 2 3 2 2;deck a1 b1 a2 b2 a3 b3 a1 b1;tokens 3 2";
-
-    private static int promise;
-    private static int wrong;
-    private static int checks;
-
-    /** A call that should throw. */
-    private interface Call {
-        Object make();
-    }
-
+public final class PromiseTest extends Checks {
     public static void main(String[] args) {
         newObject();
         append();
@@ -46,71 +30,11 @@ public final class PromiseTest {
         undoing();
         writing();
         snapshots();
-        System.out.println("PromiseTest: " + checks + " checks, " + wrong + " wrong");
-        if (wrong != 0) {
-            System.exit(1);
-        }
-    }
-
-    private static void due(String what, long got, long want) {
-        checks++;
-        if (got != want) {
-            wrong++;
-            System.out.println("promise " + promise + ": " + what + " answered " + got + ", due is " + want);
-        }
-    }
-
-    private static void due(String what, boolean got, boolean want) {
-        due(what, got ? 1 : 0, want ? 1 : 0);
-    }
-
-    private static void fails(String what, Class<?> type, Call call) {
-        Object got = null;
-        try {
-            got = call.make();
-        } catch (RuntimeException e) {
-            got = e.getClass();
-        }
-        checks++;
-        if (got != type) {
-            wrong++;
-            System.out.println("promise " + promise + ": " + what + " answered " + got + ", due is " + type);
-        }
-    }
-
-    private static int load(HintTeam team, String text) {
-        byte[] bytes = text.getBytes(StandardCharsets.ISO_8859_1);
-        for (byte b : bytes) {
-            team.append(b & 255L);
-        }
-        return team.load();
-    }
-
-    private static HintTeam of(String text) {
-        HintTeam team = new HintTeam();
-        int got = load(team, text);
-        if (got < 0) {
-            wrong++;
-            System.out.println("promise 3: " + text + " was not loaded: " + got);
-        }
-        return team;
-    }
-
-    private static String output(HintTeam team) {
-        StringBuilder text = new StringBuilder();
-        for (int k = 0; team.outputByte(k) != HintTeam.NONE; k++) {
-            text.append((char) team.outputByte(k));
-        }
-        return text.toString();
-    }
-
-    private static void written(HintTeam team, int player, boolean seen, String want) {
-        due("length of " + want, team.writeHand(player, seen), want.length());
-        due("output " + output(team) + " for " + want, output(team).equals(want), true);
+        end("PromiseTest");
     }
 
     private static void newObject() {
-        promise = 1;
+        about = "promise 1";
         HintTeam team = new HintTeam();
         for (int what = 0; what <= 10; what++) {
             due("count(" + what + ")", team.count(what), 0);
@@ -137,7 +61,7 @@ public final class PromiseTest {
     }
 
     private static void append() {
-        promise = 2;
+        about = "promise 2";
         HintTeam team = new HintTeam();
         due("append(0x6100000000620000)", team.append(0x6100000000620000L), 2);
         due("append(0)", team.append(0), 2);
@@ -164,7 +88,7 @@ public final class PromiseTest {
     }
 
     private static void loadCounts() {
-        promise = 3;
+        about = "promise 3";
         HintTeam team = new HintTeam();
         due("load()", load(team, PLAIN), 8);
         due("cards to be drawn", team.count(4), 4);
@@ -206,11 +130,11 @@ public final class PromiseTest {
 
     private static void error(String text, int kind, int position, int statement) {
         HintTeam team = new HintTeam();
-        promise = 3;
+        about = "promise 3";
         due("load of " + text, load(team, text), -100 - position);
-        promise = 4;
+        about = "promise 4";
         due("error of " + text, team.loadError(), kind);
-        promise = 5;
+        about = "promise 5";
         due("statement of " + text, team.loadStatement(), statement);
     }
 
@@ -294,25 +218,25 @@ public final class PromiseTest {
 
     private static void loadStatements() {
         HintTeam team = new HintTeam();
-        promise = 4;
+        about = "promise 4";
         due("no call of load", team.loadError(), 0);
-        promise = 5;
+        about = "promise 5";
         due("no call of load", team.loadStatement(), HintTeam.NONE);
         load(team, "game 1 1 2 1;deck a1 a1;tokens 3 3;oops");
         due("fourth statement", team.loadStatement(), 3);
         team.saveSnapshot(0);
         team.restoreSnapshot(0);
         due("snapshots leave it", team.loadStatement(), 3);
-        promise = 4;
+        about = "promise 4";
         due("snapshots leave it", team.loadError(), 1);
         load(team, "game 1 1 2 1;deck a1 a1");
         due("no error", team.loadError(), 0);
-        promise = 5;
+        about = "promise 5";
         due("no error", team.loadStatement(), HintTeam.NONE);
     }
 
     private static void shuffles() {
-        promise = 3;
+        about = "promise 3";
         // Seed 0: the states are 12345, 1406932606, 654583775: draws 0 of 4, 21468 % 3 = 0, 9988 % 2 = 0.
         HintTeam team = of("game 1 4 2 1;deck a1 a2;shuffle 0;deck a3 a4");
         // a1 a2 a3 a4 -> a4 a2 a3 a1 -> a3 a2 a4 a1 -> a2 a3 a4 a1
@@ -325,7 +249,7 @@ public final class PromiseTest {
     }
 
     private static void counts() {
-        promise = 6;
+        about = "promise 6";
         HintTeam team = of("game 3 2 4 2;deck a1 a1 b1 b1 c1 c1 a2 b2 c2 a1;tokens 5 4;lives 2");
         int[] due = {3, 2, 4, 2, 2, 4, 2, 0, 0, -1, 0};
         for (int what = 0; what < due.length; what++) {
@@ -350,7 +274,7 @@ public final class PromiseTest {
     }
 
     private static void endings() {
-        promise = 7;
+        about = "promise 7";
         HintTeam team = of("game 1 2 3 1;deck a2 a2 a1 a1;lives 2");
         due("at the beginning", team.turnOf(), 0);
         team.hint(1, 1, 2);
@@ -359,7 +283,7 @@ public final class PromiseTest {
         due("third turn", team.turnOf(), 2);
         team.hint(0, 1, 2);
         due("the first player again", team.turnOf(), 0);
-        promise = 8;
+        about = "promise 8";
         due("not over", team.over(), 0);
         team.play(0);
         due("one life", team.over(), 0);
@@ -392,18 +316,18 @@ public final class PromiseTest {
 
     private static void cards() {
         HintTeam team = of(PLAIN);
-        promise = 9;
+        about = "promise 9";
         due("empty pile", team.pile(1), 0);
         team.play(1);
         due("pile", team.pile(1), 1);
         due("other pile", team.pile(0), 0);
         fails("pile(-1)", INDEX, () -> team.pile(-1));
         fails("pile(2)", INDEX, () -> team.pile(2));
-        promise = 10;
+        about = "promise 10";
         due("hand", team.hand(0), 2);
         fails("hand(-1)", INDEX, () -> team.hand(-1));
         fails("hand(2)", INDEX, () -> team.hand(2));
-        promise = 11;
+        about = "promise 11";
         due("card(0, 0)", team.card(0, 0), 1);
         due("the drawn card comes behind", team.card(0, 1), 3);
         due("card(1, 1)", team.card(1, 1), 12);
@@ -415,20 +339,20 @@ public final class PromiseTest {
         team.discard(0);
         due("behind a card that goes", team.card(1, 0), 12);
         due("drawn behind it", team.card(1, 1), 13);
-        promise = 12;
+        about = "promise 12";
         due("drawn(0)", team.drawn(0), 1);
         due("drawn(1)", team.drawn(1), 11);
         due("drawn(2)", team.drawn(2), HintTeam.NONE);
         due("drawn(-1)", team.drawn(-1), HintTeam.NONE);
         due("drawn(MAX)", team.drawn(Integer.MAX_VALUE), HintTeam.NONE);
-        promise = 10;
+        about = "promise 10";
         HintTeam last = of("game 1 1 2 2;deck a1 a1 a1 a1;lives 5");
         last.discard(0);
         due("a hand that nothing is drawn for", last.hand(0), 1);
     }
 
     private static void copies() {
-        promise = 13;
+        about = "promise 13";
         HintTeam team = of("game 2 2 2 2;deck a1 a1 a1 b2 a1 a1 b1");
         due("whole game", team.copies(0, 1, 0), 5);
         due("in the heap", team.copies(0, 1, 1), 0);
@@ -454,14 +378,14 @@ public final class PromiseTest {
     private static void uselessAndCritical() {
         // a: 1 1 2 3 4, b: 1 3 (no b2, no b4)
         HintTeam team = of("game 2 4 2 2;deck a1 a2 a1 a3 b1 b3 a4;lives 5");
-        promise = 14;
+        about = "promise 14";
         due("a1", team.isUseless(0, 1), false);
         due("a4", team.isUseless(0, 4), false);
         due("b1", team.isUseless(1, 1), false);
         due("b2, of which there is none", team.isUseless(1, 2), true);
         due("b3 above it", team.isUseless(1, 3), true);
         due("b4", team.isUseless(1, 4), true);
-        promise = 15;
+        about = "promise 15";
         due("a1", team.isCritical(0, 1), false);
         due("a2", team.isCritical(0, 2), true);
         due("b1", team.isCritical(1, 1), true);
@@ -471,18 +395,18 @@ public final class PromiseTest {
         due("a1, the other one is in the heap", team.isCritical(0, 1), true);
         team.play(0);
         due("a1 on its pile", team.isCritical(0, 1), false);
-        promise = 14;
+        about = "promise 14";
         due("a1 on its pile", team.isUseless(0, 1), true);
         due("a2", team.isUseless(0, 2), false);
         team.discard(0);
         due("a2 in the heap", team.isUseless(0, 2), true);
         due("a3 above it", team.isUseless(0, 3), true);
-        promise = 15;
+        about = "promise 15";
         due("a3 above it", team.isCritical(0, 3), false);
         fails("isCritical(0, 5)", INDEX, () -> team.isCritical(0, 5));
         fails("isCritical(2, 1)", INDEX, () -> team.isCritical(2, 1));
         fails("isCritical(-1, 1)", INDEX, () -> team.isCritical(-1, 1));
-        promise = 14;
+        about = "promise 14";
         fails("isUseless(0, 0)", INDEX, () -> team.isUseless(0, 0));
         fails("isUseless(0, 5)", INDEX, () -> team.isUseless(0, 5));
         fails("isUseless(2, 1)", INDEX, () -> team.isUseless(2, 1));
@@ -490,20 +414,20 @@ public final class PromiseTest {
 
     private static void hintedKinds() {
         HintTeam team = of("game 3 4 2 3;deck a1 b2 c4 a1 b2 c3 a1 a1 a1 a1");
-        promise = 16;
+        about = "promise 16";
         due("no hint", team.colorsOf(1, 0), 7);
-        promise = 17;
+        about = "promise 17";
         due("no hint", team.ranksOf(1, 0), 15);
-        promise = 18;
+        about = "promise 18";
         due("no hint", team.isTouched(1, 0), false);
         team.hint(1, 0, 1);
         due("not touched", team.isTouched(1, 0), false);
         due("touched", team.isTouched(1, 1), true);
-        promise = 16;
+        about = "promise 16";
         due("not touched", team.colorsOf(1, 0), 5);
         due("touched", team.colorsOf(1, 1), 2);
         due("another hand", team.colorsOf(0, 1), 7);
-        promise = 17;
+        about = "promise 17";
         due("a color", team.ranksOf(1, 1), 15);
         team.hint(0, 1, 4);
         due("touched", team.ranksOf(0, 2), 8);
@@ -511,42 +435,42 @@ public final class PromiseTest {
         team.hint(1, 1, 3);
         due("touched", team.ranksOf(1, 2), 4);
         due("not touched", team.ranksOf(1, 1), 11);
-        promise = 16;
+        about = "promise 16";
         due("by the hints alone", team.colorsOf(1, 2), 5);
-        promise = 18;
+        about = "promise 18";
         due("touched by the second one", team.isTouched(1, 2), true);
         team.discard(0);
         due("the knowledge goes along", team.isTouched(1, 0), true);
         due("a drawn card", team.isTouched(1, 2), false);
-        promise = 16;
+        about = "promise 16";
         team.discard(0);
         due("the knowledge goes along", team.colorsOf(1, 0), 2);
         due("a drawn card", team.colorsOf(0, 2), 7);
         fails("colorsOf(2, 0)", INDEX, () -> team.colorsOf(2, 0));
         fails("colorsOf(0, 3)", INDEX, () -> team.colorsOf(0, 3));
-        promise = 17;
+        about = "promise 17";
         fails("ranksOf(-1, 0)", INDEX, () -> team.ranksOf(-1, 0));
         fails("ranksOf(0, -1)", INDEX, () -> team.ranksOf(0, -1));
-        promise = 18;
+        about = "promise 18";
         fails("isTouched(2, 0)", INDEX, () -> team.isTouched(2, 0));
         fails("isTouched(1, 3)", INDEX, () -> team.isTouched(1, 3));
     }
 
     private static void thoughts() {
         HintTeam team = of(PLAIN);
-        promise = 19;
+        about = "promise 19";
         // Player 0 sees a2 b2, which are the only ones.
         due("thinks(0, 0)", team.thinks(0, 0), 4);
         // Player 1 sees a1 b1, of which there are others.
         due("thinks(1, 0)", team.thinks(1, 0), 6);
-        promise = 20;
+        about = "promise 20";
         int[] kinds = {1, 3, 11, 13, HintTeam.NONE};
         for (int k = 0; k < kinds.length; k++) {
             due("thought(0, 0, " + k + ")", team.thought(0, 0, k), kinds[k]);
         }
         due("thought(0, 0, -1)", team.thought(0, 0, -1), HintTeam.NONE);
         due("thought(0, 0, MAX)", team.thought(0, 0, Integer.MAX_VALUE), HintTeam.NONE);
-        promise = 21;
+        about = "promise 21";
         due("nothing", team.knows(0, 0), 0);
         team.hint(1, 1, 2);
         team.hint(0, 1, 1);
@@ -554,24 +478,24 @@ public final class PromiseTest {
         due("a 2 cannot", team.knows(1, 0), 0);
         team.play(0);
         due("one 1 can be played, the other not", team.knows(0, 0), 0);
-        promise = 19;
+        about = "promise 19";
         due("a1 on its pile and one to be drawn", team.thinks(0, 0), 2);
         team.discard(0);
-        promise = 20;
+        about = "promise 20";
         due("a1 is possible", team.thought(0, 0, 0), 1);
         team.play(0);
-        promise = 21;
+        about = "promise 21";
         due("player 1 with b2, as a2 is in the heap", team.knows(1, 0), 1);
         fails("knows(2, 0)", INDEX, () -> team.knows(2, 0));
         fails("knows(0, 2)", INDEX, () -> team.knows(0, 2));
-        promise = 19;
+        about = "promise 19";
         fails("thinks(2, 0)", INDEX, () -> team.thinks(2, 0));
         fails("thinks(0, -1)", INDEX, () -> team.thinks(0, -1));
-        promise = 20;
+        about = "promise 20";
         fails("thought(2, 0, 0)", INDEX, () -> team.thought(2, 0, 0));
         fails("thought(0, 2, -1)", INDEX, () -> team.thought(0, 2, -1));
 
-        promise = 21;
+        about = "promise 21";
         HintTeam useless = of("game 1 2 2 1;deck a1 a1 a1 a2;lives 3");
         useless.hint(1, 1, 1);
         due("a 1 can be played", useless.knows(1, 0), 1);
@@ -582,12 +506,12 @@ public final class PromiseTest {
         HintTeam lost = of("game 2 2 2 1;deck a2 a1 a1 b1 b2;lives 3");
         lost.discard(0);
         lost.hint(0, 0, 0);
-        promise = 19;
+        about = "promise 19";
         due("a2 is in the heap, one a1 is seen", lost.thinks(0, 0), 1);
-        promise = 21;
+        about = "promise 21";
         due("it is an a1", lost.knows(0, 0), 1);
         due("a1, b1 or b2", lost.knows(1, 0), 0);
-        promise = 19;
+        about = "promise 19";
         HintTeam heap = of("game 1 3 2 1;deck a3 a1 a2 a1;lives 3");
         heap.discard(0);
         due("a card of the heap is seen", heap.thinks(1, 0), 1);
@@ -595,27 +519,27 @@ public final class PromiseTest {
     }
 
     private static void words() {
-        promise = 22;
+        about = "promise 22";
         HintTeam team = of("game 2 3 2 2;deck a1 b1 a2 b2 a3 b3 a1 b1;tokens 3 2;rank 2 1;color 1 0");
         due("color 0", team.wordsLeft(0, 0), 99);
         due("color 1", team.wordsLeft(0, 1), 0);
         due("rank 2", team.wordsLeft(1, 2), 1);
-        promise = 23;
+        about = "promise 23";
         due("rank 2 for player 1", team.touches(1, 1, 2), 3);
         due("rank 1 for player 1", team.touches(1, 1, 1), 0);
         due("color 1 for player 1", team.touches(1, 0, 1), 2);
         due("the own hand", team.touches(0, 1, 1), 3);
-        promise = 24;
+        about = "promise 24";
         due("rank 1 for player 0", team.tells(0, 1, 1), 2);
         due("rank 2 for player 1", team.tells(1, 1, 2), 0);
         due("color 0 for player 0", team.tells(0, 0, 0), 0);
         due("rank 3, which touches nothing", team.tells(0, 1, 3), 2);
         team.hint(1, 1, 2);
-        promise = 22;
+        about = "promise 22";
         due("rank 2 behind", team.wordsLeft(1, 2), 0);
         team.hint(0, 1, 1);
         due("rank 1 behind", team.wordsLeft(1, 1), 98);
-        promise = 24;
+        about = "promise 24";
         due("it is known already", team.tells(0, 1, 1), 0);
         team.play(0);
         due("color 1 for b1, as a1 is played", team.tells(0, 0, 1), 1);
@@ -625,11 +549,11 @@ public final class PromiseTest {
         fails("tells(2, 0, 0)", INDEX, () -> team.tells(2, 0, 0));
         fails("tells(-1, 7, 0)", INDEX, () -> team.tells(-1, 7, 0));
         fails("tells(0, 0, 2)", ARGUMENT, () -> team.tells(0, 0, 2));
-        promise = 23;
+        about = "promise 23";
         fails("touches(2, 0, 5)", INDEX, () -> team.touches(2, 0, 5));
         fails("touches(1, 1, 0)", ARGUMENT, () -> team.touches(1, 1, 0));
         fails("touches(1, 2, 1)", ARGUMENT, () -> team.touches(1, 2, 1));
-        promise = 22;
+        about = "promise 22";
         fails("wordsLeft(0, -1)", ARGUMENT, () -> team.wordsLeft(0, -1));
         fails("wordsLeft(0, 2)", ARGUMENT, () -> team.wordsLeft(0, 2));
         fails("wordsLeft(1, 0)", ARGUMENT, () -> team.wordsLeft(1, 0));
@@ -639,7 +563,7 @@ public final class PromiseTest {
     }
 
     private static void playing() {
-        promise = 25;
+        about = "promise 25";
         HintTeam team = of("game 1 2 2 2;deck a2 a1 a2 a1 a2 a1;tokens 4 2;lives 2");
         fails("play(2)", INDEX, () -> team.play(2));
         fails("play(-1)", INDEX, () -> team.play(-1));
@@ -664,7 +588,7 @@ public final class PromiseTest {
     }
 
     private static void discarding() {
-        promise = 26;
+        about = "promise 26";
         HintTeam team = of("game 1 2 2 2;deck a2 a1 a2 a1 a2;tokens 4 3;lives 2");
         fails("discard(2)", INDEX, () -> team.discard(2));
         fails("discard(-1)", INDEX, () -> team.discard(-1));
@@ -681,7 +605,7 @@ public final class PromiseTest {
     }
 
     private static void hinting() {
-        promise = 27;
+        about = "promise 27";
         HintTeam team = of("game 2 2 3 2;deck a1 a2 b1 a1 b2 b2 a1 a1;tokens 3 3;color 1 1");
         fails("hint(3, 0, 0)", INDEX, () -> team.hint(3, 0, 0));
         fails("hint(-1, 5, 0)", INDEX, () -> team.hint(-1, 5, 0));
@@ -707,7 +631,7 @@ public final class PromiseTest {
     }
 
     private static void passing() {
-        promise = 28;
+        about = "promise 28";
         HintTeam team = of("game 2 2 3 1;deck a1 b1 a2;tokens 2 1;rank 2 0;color 0 0;color 1 0");
         due("cards", team.pass(), HintTeam.HAS_CARDS);
         team.play(0);
@@ -727,7 +651,7 @@ public final class PromiseTest {
     }
 
     private static void advice() {
-        promise = 29;
+        about = "promise 29";
         HintTeam team = of(PLAIN);
         fails("advice(-1)", ARGUMENT, () -> team.advice(-1));
         fails("advice(4)", ARGUMENT, () -> team.advice(4));
@@ -796,7 +720,7 @@ public final class PromiseTest {
     }
 
     private static void following() {
-        promise = 30;
+        about = "promise 30";
         HintTeam team = of(PLAIN);
         fails("follow(0)", ARGUMENT, () -> team.follow(0));
         fails("follow(101)", ARGUMENT, () -> team.follow(101));
@@ -804,22 +728,22 @@ public final class PromiseTest {
         due("one turn", team.follow(1), 1);
         due("turns", team.count(8), 1);
         due("log", team.logPart(0, 1), 1);
-        promise = 31;
+        about = "promise 31";
         int seen = team.foreseen();
         due("nothing changes", team.count(8), 1);
         due("nothing to take back more", team.count(10), 1);
-        promise = 30;
+        about = "promise 30";
         int taken = team.follow(100);
         due("over", team.over() != 0, true);
         due("turns", team.count(8), taken + 1);
         due("over already", team.follow(100), 0);
-        promise = 31;
+        about = "promise 31";
         due("foreseen", seen, team.count(7));
         due("foreseen when it is over", team.foreseen(), team.count(7));
-        promise = 30;
+        about = "promise 30";
         due("one by one", team.undo(), Math.min(taken, 19));
         due("one turn less", team.count(8), taken);
-        promise = 31;
+        about = "promise 31";
         // Player 0 tells rank 1 to player 1, who plays it; then rank 2 likewise; then a3 is discarded, as nothing
         // is known of it, and player 1 and player 0 discard an a1 each.
         HintTeam easy = of("game 1 3 2 1;deck a3 a1 a2 a1 a1");
@@ -830,41 +754,41 @@ public final class PromiseTest {
     }
 
     private static void boundAndPace() {
-        promise = 32;
+        about = "promise 32";
         HintTeam team = of("game 2 4 2 2;deck a1 a2 a1 a3 b1 b3 a4;lives 5");
         due("a4 and b1", team.bound(), 5);
-        promise = 33;
+        about = "promise 33";
         due("0 + 3 + 2 - 5", team.pace(), 0);
         team.discard(0);
-        promise = 32;
+        about = "promise 32";
         due("one a1 is left", team.bound(), 5);
         team.play(0);
-        promise = 33;
+        about = "promise 33";
         due("1 + 1 + 2 - 5", team.pace(), -1);
         team.discard(0);
-        promise = 32;
+        about = "promise 32";
         due("a2 is lost: a1 and b1", team.bound(), 2);
-        promise = 33;
+        about = "promise 33";
         due("1 + 0 + 2 - 2", team.pace(), 1);
     }
 
     private static void values() {
-        promise = 34;
+        about = "promise 34";
         // Nothing can be drawn: player 0 discards or plays a1, player 1 likewise.
         HintTeam team = of("game 1 2 2 1;deck a1 a2;tokens 1 0");
         due("both play", team.value(), 2);
-        promise = 35;
+        about = "promise 35";
         // The present one; a1 played or discarded; behind the one a2 played or discarded, behind the other a2
         // discarded or, as a token came back, a hint.
         due("positions", team.positions(), 7);
-        promise = 34;
+        about = "promise 34";
         due("a2 before a1", of("game 1 2 2 1;deck a2 a1;tokens 1 0").value(), 1);
         // With a token player 0 can give a hint, and player 1 plays a1; it is over then.
         HintTeam hint = of("game 1 2 2 1;deck a2 a1;tokens 1 1");
         due("a hint, a1", hint.value(), 1);
         HintTeam drawn = of("game 1 2 2 1;deck a2 a1 a2;tokens 1 1");
         due("the other a2 is drawn", drawn.value(), 2);
-        promise = 35;
+        about = "promise 35";
         due("words do not matter", of("game 1 2 2 1;deck a2 a1;tokens 1 1;color 0 0;rank 1 0;rank 2 0").positions(),
                 hint.positions());
         due("a new game of one pile", of("game 1 1 2 1;deck a1 a1;tokens 1 0").positions(), 6);
@@ -875,7 +799,7 @@ public final class PromiseTest {
         due("just not too many", most.positions(), 4000);
         HintTeam more = of("game 1 3 2 2;deck a1 a3 a1 a2 a3 a3 a3 a2;tokens 3 3");
         due("one too many", more.positions(), HintTeam.UNKNOWN);
-        promise = 34;
+        about = "promise 34";
         due("just not too many", most.value(), 4);
         due("one too many", more.value(), HintTeam.UNKNOWN);
         due("one less behind a move", more.valueBehind(0, 0), 3);
@@ -885,12 +809,12 @@ public final class PromiseTest {
         over.play(0);
         over.discard(0);
         due("over", over.value(), 1);
-        promise = 35;
+        about = "promise 35";
         due("over", over.positions(), 1);
     }
 
     private static void valuesBehind() {
-        promise = 36;
+        about = "promise 36";
         HintTeam team = of("game 1 2 2 1;deck a1 a2 a1;tokens 1 1");
         due("play a1", team.valueBehind(0, 0), 2);
         due("discard a1", team.valueBehind(1, 0), 1);
@@ -917,7 +841,7 @@ public final class PromiseTest {
     }
 
     private static void bestMoves() {
-        promise = 37;
+        about = "promise 37";
         HintTeam team = of("game 1 2 2 2;deck a2 a1 a2 a2;tokens 1 1");
         due("play", team.bestMove(0), 0);
         due("place", team.bestMove(1), 1);
@@ -942,7 +866,7 @@ public final class PromiseTest {
     }
 
     private static void totals() {
-        promise = 38;
+        about = "promise 38";
         HintTeam team = of("game 2 2 2 2;deck a1 a2 b1 b2 b1 a1 b2 a1;tokens 3 3;lives 3");
         team.discard(1);
         due("discarded", team.total(2), 1);
@@ -978,7 +902,7 @@ public final class PromiseTest {
     }
 
     private static void logs() {
-        promise = 39;
+        about = "promise 39";
         HintTeam team = of("game 2 2 2 2;deck a1 a2 b1 b2 b1 a1 b2 a1;tokens 3 3;lives 3");
         due("no turn", team.logPart(0, 0), HintTeam.NO_VALUE);
         team.play(0);
@@ -1021,7 +945,7 @@ public final class PromiseTest {
     }
 
     private static void undoing() {
-        promise = 40;
+        about = "promise 40";
         HintTeam team = of("game 4 5 2 2;deck " + "a1 b2 c3 d4 ".repeat(10) + ";tokens 9 4;lives 5");
         due("nothing yet", team.undo(), HintTeam.NONE);
         team.play(0);
@@ -1064,7 +988,7 @@ public final class PromiseTest {
 
     private static void writing() {
         HintTeam team = of("game 3 4 2 3;deck a1 b2 c4 a1 b2 c3 a1");
-        promise = 41;
+        about = "promise 41";
         written(team, 0, true, "a1 b2 c4");
         written(team, 1, true, "a1 b2 c3");
         written(team, 1, false, "?? ?? ??");
@@ -1079,13 +1003,13 @@ public final class PromiseTest {
         fails("writeHand(2, true)", INDEX, () -> team.writeHand(2, true));
         fails("writeHand(-1, false)", INDEX, () -> team.writeHand(-1, false));
         due("output stays", output(team).equals("?? ?? c4"), true);
-        promise = 42;
+        about = "promise 42";
         due("outputByte(0)", team.outputByte(0), '?');
         due("outputByte(7)", team.outputByte(7), '4');
         due("outputByte(8)", team.outputByte(8), HintTeam.NONE);
         due("outputByte(-1)", team.outputByte(-1), HintTeam.NONE);
         due("outputByte(MAX)", team.outputByte(Integer.MAX_VALUE), HintTeam.NONE);
-        promise = 41;
+        about = "promise 41";
         HintTeam one = of("game 1 2 2 5;deck " + "a1 a2 ".repeat(5));
         written(one, 0, false, "a? a? a? a? a?");
         one.discard(0);
@@ -1098,7 +1022,7 @@ public final class PromiseTest {
     }
 
     private static void snapshots() {
-        promise = 43;
+        about = "promise 43";
         HintTeam team = of(PLAIN);
         team.play(0);
         due("saveSnapshot(0)", team.saveSnapshot(0), 1);
@@ -1106,7 +1030,7 @@ public final class PromiseTest {
         team.hint(0, 1, 1);
         team.writeHand(0, false);
         team.append(32);
-        promise = 44;
+        about = "promise 44";
         due("nothing in slot 1", team.restoreSnapshot(1), HintTeam.NONE);
         due("nothing changed", team.count(8), 2);
         due("nothing changed", team.count(10), 2);
@@ -1126,11 +1050,11 @@ public final class PromiseTest {
         due("it can be taken back", team.count(10), 1);
         due("the snapshot stays", team.restoreSnapshot(0), 1);
         due("lives", team.count(6), 3);
-        promise = 43;
+        about = "promise 43";
         team.load();
         due("snapshot of another game", load(team, "game 1 1 2 1;deck a1 a1"), 2);
         due("saveSnapshot(1)", team.saveSnapshot(1), 0);
-        promise = 44;
+        about = "promise 44";
         due("restoreSnapshot(0)", team.restoreSnapshot(0), 1);
         due("colors", team.count(0), 2);
         due("drawn", team.drawn(0), 13);
@@ -1138,14 +1062,14 @@ public final class PromiseTest {
         due("colors", team.count(0), 1);
         fails("restoreSnapshot(2)", ARGUMENT, () -> team.restoreSnapshot(2));
         fails("restoreSnapshot(-1)", ARGUMENT, () -> team.restoreSnapshot(-1));
-        promise = 43;
+        about = "promise 43";
         fails("saveSnapshot(2)", ARGUMENT, () -> team.saveSnapshot(2));
         fails("saveSnapshot(-1)", ARGUMENT, () -> team.saveSnapshot(-1));
         HintTeam fresh = new HintTeam();
         due("a new object", fresh.saveSnapshot(0), 0);
         load(fresh, PLAIN);
         due("a second time", fresh.saveSnapshot(1), 0);
-        promise = 44;
+        about = "promise 44";
         due("the new object again", fresh.restoreSnapshot(0), 0);
         due("over", fresh.over(), 3);
         due("no players", fresh.count(2), 0);
