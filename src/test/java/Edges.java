@@ -45,9 +45,10 @@ abstract class Edges extends Checks {
     /** What can be asked of a small game and the output without changing them, in some 150 calls. */
     static String seenGame(HintTeam team) {
         StringBuilder text = new StringBuilder();
-        for (int what = 0; what <= 10; what++) {
+        for (int what = 0; what <= 9; what++) {
             text.append(team.count(what)).append(' ');
         }
+        text.append("\nback ").append(team.count(10)).append('\n');
         text.append(team.turnOf()).append(' ').append(team.over()).append(' ').append(output(team));
         for (int player = 0; player < team.count(2); player++) {
             text.append("\nplayer ").append(team.hand(player));

@@ -82,6 +82,7 @@ final class MindEdges extends Edges {
         edge(30, "or the game is over", MindEdges::followsToTheEnd);
         edge(30, "(all of them are taken back one by one).", MindEdges::followedOneByOne);
         edge(30, "`turns`: 1 to 100", MindEdges::followRange);
+        edge(30, "Returns how many turns were taken.", MindEdges::followsToTheEnd);
         edge(30, "if turns is out of range", MindEdges::followRange);
         edge(31, "until the game is over, or 300 were taken.", MindEdges::foreseenToTheEnd);
     }

@@ -100,6 +100,12 @@ final class PlayEdges extends Edges {
     }
 
     private static void turns() {
+        edge(25, "The player whose turn it is plays a card (a turn).", () -> takesTurns(HintTeam::play));
+        edge(26, "The player whose turn it is discards a card (a turn).", () -> takesTurns(HintTeam::discard));
+        edge(27, "The player whose turn it is gives a hint to another player (a turn).",
+                () -> takesTurns((team, rank) -> team.hint(team.turnOf() == 0 ? 1 : 0, 1, rank + 2)));
+        edge(28, "The player whose turn it is, and who has no cards, passes (a turn).", PlayEdges::neverPasses);
+        edge(28, "Returns the player whose turn it is then, NONE if the game is over then;", PlayEdges::neverPasses);
         edge(25, "Returns the score then;", PlayEdges::playable);
         edge(25, "OVER if the game is over.", () -> refusedWhenOver(HintTeam::play));
         edge(25, "`place`: the place in the hand", () -> needsOwnCard(HintTeam::play));
@@ -685,6 +691,31 @@ final class PlayEdges extends Edges {
         due("place 1", team.touches(0, 1, 2), 2);
         due("none", team.touches(0, 1, 4), 0);
         due("all", team.touches(1, 1, 5), 31);
+    }
+
+    private static void takesTurns(OfNumber turn) {
+        HintTeam team = of("game 1 2 3 1;deck" + " a2".repeat(20) + ";lives 5");
+        for (int k = 0; k < 4; k++) {
+            due("player", team.turnOf(), k % 3);
+            due("turn " + k, (int) turn.ask(team, 0) >= 0, true);
+            due("turns", team.count(8), k + 1);
+            due("the next player", team.turnOf(), (k + 1) % 3);
+            due("the player of the turn", team.logPart(0, 0), k % 3);
+            due("turns that can be taken back", team.count(10), k + 1);
+        }
+    }
+
+    /** Nobody's turn comes without cards: the last round has one turn for each player. */
+    private static void neverPasses() {
+        for (int players = 2; players <= 4; players++) {
+            HintTeam team = of("game 2 2 " + players + " 1;deck" + " a1 b2".repeat(3));
+            for (int k = 0; k < 20 && team.over() == 0; k++) {
+                due("turn " + k, team.pass(), HintTeam.HAS_CARDS);
+                team.discard(0);
+            }
+            due("over", team.over(), 3);
+            due("then", team.pass(), OVER);
+        }
     }
 
     private static void needsOwnCard(OfNumber turn) {

@@ -26,11 +26,13 @@ final class TextEdges extends Edges {
         edge(0, "of several the last one counts; lives", TextEdges::severalTokens);
         edge(0, "of several the last one counts;", TextEdges::severalTokens);
         edge(0, "lives LIVES - 1 to 5, 3 without it, likewise;", TextEdges::livesNumbers);
-        edge(0, "color COLOR TIMES, rank RANK TIMES - how often this word can be given as a hint;", TextEdges::wordTimes);
+        edge(0, "color COLOR TIMES, rank RANK TIMES - how often this word can be given as a hint;",
+                TextEdges::wordTimes);
         edge(0, "COLOR 0 to COLORS - 1, RANK 1 to RANKS, TIMES 0 to 99;", TextEdges::wordNumbers);
         edge(0, "99 without it;", TextEdges::wordsWithoutTimes);
         edge(0, "99 without it; of several the last one counts;", TextEdges::severalTimes);
-        edge(0, "shuffle SEED - 0 to 999999: behind the whole text, the cards of the deck are exchanged", TextEdges::seeds);
+        edge(0, "shuffle SEED - 0 to 999999: behind the whole text, the cards of the deck are exchanged",
+                TextEdges::seeds);
         edge(0, "for k from their number - 1 down to 1, a draw of k + 1 is made", TextEdges::exchanges);
         edge(0, "of several the last one counts.", TextEdges::severalSeeds);
         edge(0, "the seed s becomes (s * 1103515245 + 12345) modulo 2147483648", TextEdges::draws);
@@ -45,15 +47,16 @@ final class TextEdges extends Edges {
     private static void errors() {
         edge(0, "The text is read from left to right;", TextEdges::firstErrors);
         edge(0, "the first error ends it.", TextEdges::firstErrors);
-        edge(0, "Error 1: a byte or a word cannot stand at its place (position of the byte or of the word's first byte;",
+        edge(0, "Error 1: a byte or a word cannot stand at its place (position of the byte or of the word's "
+                + "first byte;",
                 TextEdges::wrongPlaces);
         edge(0, "also a word of more than one letter where a card must or can stand,", TextEdges::longWordsForCards);
         edge(0, "a letter without a digit directly behind it (position of the letter)", TextEdges::lettersAlone);
         edge(0, "and game behind another statement)", TextEdges::gameBehind);
         edge(0, "or the text ends too early (position: its length).", TextEdges::earlyEnds);
         edge(0, "Error 2: a number is out of its range", TextEdges::wrongNumbers);
-        edge(0, "or the letter (another one than those of the colors) or the rank of a card (position of its first digit, "
-                + "or of the card;", TextEdges::wrongCards);
+        edge(0, "or the letter (another one than those of the colors) or the rank of a card (position of its first "
+                + "digit, or of the card;", TextEdges::wrongCards);
         edge(0, "a rank has all digits that stand there).", TextEdges::longRanks);
         edge(0, "Error 3: a 41st card (position of the card;", TextEdges::fortyFirstCard);
         edge(0, "if it has error 2, that one counts).", TextEdges::wrongFortyFirstCard);
