@@ -249,6 +249,10 @@ final class MindEdges extends Edges {
         team.play(1);
         due("a1 and b1 are useless", team.knows(1, 0), 2);
         due("a card of which nothing was told", team.knows(1, 1), 0);
+        HintTeam other = of("game 2 2 2 2;deck b1 a1 b1 a1 b1 a1 b2 a2");
+        other.hint(1, 1, 1);
+        other.play(0);
+        due("b1 is useless, a1 can be played", other.knows(1, 0), 0);
         HintTeam lost = of("game 1 3 2 1;deck a2 a3 a1 a1 a1;tokens 9 9");
         lost.hint(1, 1, 3);
         due("a3 cannot be played yet", lost.knows(1, 0), 0);

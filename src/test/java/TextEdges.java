@@ -226,6 +226,9 @@ final class TextEdges extends Edges {
             team.discard(0);
         }
         due("most tokens of " + text, team.count(5), most);
+        team.hint(1 - team.turnOf(), 0, 0);
+        due("one less than most of " + text, team.count(5), most - 1);
+        due("most tokens of " + text + " again", team.discard(0), most);
     }
 
     private static void tokenNumbers() {
@@ -365,6 +368,13 @@ final class TextEdges extends Edges {
     private static void runs() {
         error("games 1 1 2 1", 1, 0, 0);
         error("gam 1 1 2 1", 1, 0, 0);
+        error("same 1 1 2 1", 1, 0, 0);
+        for (String word : new String[] {"peck a1", "sokens 3 3", "fives 3", "dolor 0 3", "bank 1 3", "thuffle 3"}) {
+            errorBehind(TWO + ";", word, 1, 0);
+        }
+        for (String word : new String[] {"decl a1", "tokenz 3 3", "liver 3", "colon 0 3", "rang 1 3", "shuffla 3"}) {
+            errorBehind(TWO + ";", word, 1, 0);
+        }
         error("gaMe 1 1 2 1", 1, 0, 0);
         error("ga me 1 1 2 1", 1, 0, 0);
         errorBehind("game 1 1 2 1;", "decka1 a1", 1, 0);
@@ -566,6 +576,9 @@ final class TextEdges extends Edges {
         due("none more", team.append(0), 600);
         due("601 of 600", team.append(0x20), HintTeam.FULL);
         due("608 of 600", team.append(-1L), HintTeam.FULL);
+        for (int shift = 0; shift < 64; shift++) {
+            due("a byte of one bit, " + shift, team.append(1L << shift), HintTeam.FULL);
+        }
         due("none more", team.append(0), 600);
         due("spaces alone", team.load(), -700);
         for (int k = 0; k < 74; k++) {
@@ -587,8 +600,13 @@ final class TextEdges extends Edges {
     }
 
     private static void beginsAnew() {
-        HintTeam team = of(PLAIN + ";lives 1");
+        HintTeam team = of(PLAIN + ";lives 1;rank 2 5");
+        team.play(1);
+        team.hint(0, 1, 3);
         team.hint(1, 1, 2);
+        team.discard(1);
+        team.play(0);
+        team.discard(0);
         team.play(0);
         due("over", team.over(), 1);
         load(team, PLAIN);

@@ -298,6 +298,9 @@ final class ValueEdges extends Edges {
         due("both play", of("game 1 2 2 1;deck a1 a2;tokens 1 0").value(), 2);
         due("the first one cannot", of("game 1 2 2 1;deck a2 a1;tokens 1 0").value(), 1);
         due("all piles", of("game 2 1 2 1;deck a1 b1 a1 b1").value(), 2);
+        due("all piles of four colors", of("game 4 1 4 1;deck a1 b1 c1 d1").value(), 4);
+        due("without color 3", of("game 4 1 3 1;deck a1 b1 c1").value(), 3);
+        due("without color 2", of("game 4 1 3 1;deck a1 b1 d1").value(), 3);
         HintTeam team = of("game 1 2 2 1;deck a1 a1 a1");
         team.play(0);
         due("the present score", team.value(), 1);
