@@ -268,6 +268,34 @@ final class TextEdges extends Edges {
         team.discard(0);
         due("rank 1, again", team.hint(0, 1, 1), HintTeam.NO_WORD);
         due("color 0, without a statement", team.hint(0, 0, 0), 1);
+        eachWordHasItsTimes();
+    }
+
+    private static void eachWordHasItsTimes() {
+        StringBuilder text = new StringBuilder("game 4 5 2 1;deck a1 d1 a1;tokens 9 9");
+        for (int color = 0; color < 4; color++) {
+            text.append(";color ").append(color).append(" 1").append(color);
+        }
+        for (int rank = 1; rank <= 5; rank++) {
+            text.append(";rank ").append(rank).append(" 2").append(rank);
+        }
+        HintTeam team = of(text.toString());
+        timesLeft(team, 13, 21);
+        team.hint(1, 1, 1);
+        timesLeft(team, 13, 20);
+        team.undo();
+        team.hint(1, 0, 3);
+        timesLeft(team, 12, 21);
+    }
+
+    /** All words but color 3 and rank 1 have 10 times and the color, or 20 times and the rank. */
+    private static void timesLeft(HintTeam team, int ofColor3, int ofRank1) {
+        for (int color = 0; color < 4; color++) {
+            due("color " + color, team.wordsLeft(0, color), color == 3 ? ofColor3 : 10 + color);
+        }
+        for (int rank = 1; rank <= 5; rank++) {
+            due("rank " + rank, team.wordsLeft(1, rank), rank == 1 ? ofRank1 : 20 + rank);
+        }
     }
 
     private static void wordNumbers() {

@@ -276,6 +276,10 @@ final class ValueEdges extends Edges {
         due("behind a discard: a discard, a hint", team.positions(), 3);
         team.discard(0);
         due("behind both", team.positions(), 1);
+        // Behind a1 player 1 plays or discards one of five cards; behind one of five discards that brought a token
+        // back player 1 discards one of five cards or gives a hint.
+        due("hands of five cards", of("game 1 2 2 5;deck a2 a2 a2 a2 a1 a2 a2 a2 a2 a2;tokens 1 0").positions(),
+                1 + 6 + 10 + 30);
     }
 
     private static void tooManyForAValue() {
@@ -304,6 +308,7 @@ final class ValueEdges extends Edges {
         HintTeam team = of("game 1 2 2 1;deck a1 a1 a1");
         team.play(0);
         due("the present score", team.value(), 1);
+        due("the fifth card of five", of("game 1 2 2 5;deck a2 a2 a2 a2 a1 a2 a2 a2 a2 a2;tokens 1 0").value(), 2);
         // Lives do not matter here, only cards that can be played are.
         due("one life", of("game 1 2 2 1;deck a2 a1 a2;tokens 1 1;lives 1").value(), 2);
     }
