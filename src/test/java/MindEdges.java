@@ -1,3 +1,5 @@
+import java.util.function.Consumer;
+
 /** The edges of sections 3 and 4 and of promises 14, 15, 19 to 21, 24 and 29 to 31: what is known and advised. */
 final class MindEdges extends Edges {
     private static final int NONE = HintTeam.NONE;
@@ -49,6 +51,8 @@ final class MindEdges extends Edges {
         edge(24, "would know behind a hint that they can be played, but does not know it yet.", MindEdges::tellsNews);
         edge(24, "`word`: 0 for a color, 1 for a rank", () -> needsWord((t, w, v) -> t.tells(0, w, v)));
         edge(24, "`value`: 0 to COLORS - 1, or 1 to RANKS", () -> needsWord((t, w, v) -> t.tells(1, w, v)));
+        edge(24, "`value`: 0 to COLORS - 1, or 1 to RANKS", MindEdges::tellsByValues);
+        edge(24, "Returns of how many cards of a hand (of any player", MindEdges::tellsOfHands);
         edge(24, "if there is no such player", () -> needsPlayer((team, player) -> team.tells(player, 1, 1)));
         edge(24, "if word or value is out of range", () -> needsWord((t, w, v) -> t.tells(1, w, v)));
     }
@@ -78,6 +82,7 @@ final class MindEdges extends Edges {
         edge(29, "(NONE for what the kind does not have)", MindEdges::partsOfAdvice);
         edge(29, "OVER if the game is over.", MindEdges::adviceWhenOver);
         edge(29, "if what is out of range", () -> range(of(PLAIN), 0, 3, ARGUMENT, HintTeam::advice));
+        edge(30, "Takes turns as advised", MindEdges::followsAdvice);
         edge(30, "until so many are taken", MindEdges::followsSoMany);
         edge(30, "or the game is over", MindEdges::followsToTheEnd);
         edge(30, "(all of them are taken back one by one).", MindEdges::followedOneByOne);
@@ -149,6 +154,13 @@ final class MindEdges extends Edges {
         thinks("kinds without cards", none, 0, 0, 1);
         HintTeam last = of("game 4 5 4 1;deck a1 a1 d5 d5 d5");
         thinks("the last kind", last, 3, 0, 35);
+        HintTeam four = of("game 4 1 4 1;deck a1 b1 c1 d1");
+        for (int player = 0; player < 4; player++) {
+            thinks("all others are in the other hands", four, player, 0, 10 * player + 1);
+        }
+        HintTeam five = of("game 4 5 2 5;deck a1 a2 a3 a4 a5 b1 b2 b3 b4 b5");
+        thinks("hands of five cards", five, 0, 4, 1, 2, 3, 4, 5);
+        thinks("hands of five cards", five, 1, 4, 11, 12, 13, 14, 15);
     }
 
     private static void pileCards() {
@@ -165,6 +177,33 @@ final class MindEdges extends Edges {
         thinks("one a1 on the pile, one in the heap, one in the own hand", three, 0, 0, 1, 2);
         three.discard(0);
         thinks("one a1 on the pile, two in the heap", three, 1, 0, 2);
+        allPilesGrow();
+    }
+
+    /** Each kind has one card; two players play them one by one, so that each sees the card behind the own one. */
+    private static void allPilesGrow() {
+        HintTeam team = of("game 4 5 2 1;deck a1 a2 a3 a4 a5 b1 b2 b3 b4 b5 c1 c2 c3 c4 c5 d1 d2 d3 d4 d5");
+        for (int played = 0; played < 20; played++) {
+            int[] kinds = new int[Math.max(1, 19 - played)];
+            kinds[0] = codeOf(played);
+            for (int k = 1; k < kinds.length; k++) {
+                kinds[k] = codeOf(played + 1 + k);
+            }
+            thinks(played + " cards on piles", team, team.turnOf(), 0, kinds);
+            uselessUpTo(played, team);
+            due("score", team.play(0), played + 1);
+        }
+        due("over", team.over(), 2);
+    }
+
+    private static void uselessUpTo(int played, HintTeam team) {
+        for (int kind = 0; kind < 20; kind++) {
+            due(played + " on piles, " + codeOf(kind), team.isUseless(kind / 5, kind % 5 + 1), kind < played);
+        }
+    }
+
+    private static int codeOf(int kind) {
+        return 10 * (kind / 5) + kind % 5 + 1;
     }
 
     private static void playableKinds() {
@@ -249,6 +288,7 @@ final class MindEdges extends Edges {
         team.play(1);
         due("a1 and b1 are useless", team.knows(1, 0), 2);
         due("a card of which nothing was told", team.knows(1, 1), 0);
+        uselessOfEachColor();
         HintTeam other = of("game 2 2 2 2;deck b1 a1 b1 a1 b1 a1 b2 a2");
         other.hint(1, 1, 1);
         other.play(0);
@@ -278,6 +318,19 @@ final class MindEdges extends Edges {
         due("a1, on the pile", team.isCritical(0, 1), false);
         team.discard(0);
         due("a3, one of two is lost, but useless", team.isCritical(0, 3), false);
+    }
+
+    /** A card is played; then it is told of the color of another one like it. */
+    private static void uselessOfEachColor() {
+        for (char color = 'a'; color <= 'd'; color++) {
+            String card = " " + color + "1";
+            HintTeam team = of("game 4 1 2 1;deck" + card + card + " a1 b1 c1 d1");
+            team.play(0);
+            team.hint(0, 1, 1);
+            due("nothing was told", team.knows(1, 0), 0);
+            team.hint(1, 0, color - 'a');
+            due("useless by color " + color, team.knows(1, 0), 2);
+        }
     }
 
     private static void thoughtsInOrder() {
@@ -343,6 +396,37 @@ final class MindEdges extends Edges {
         HintTeam sole = of("game 1 1 2 1;deck a1 a1");
         due("known without a hint", sole.knows(0, 0), 1);
         due("known without a hint", sole.tells(0, 0, 0), 0);
+    }
+
+    private static void tellsOfHands() {
+        for (int cards = 1; cards <= 5; cards++) {
+            HintTeam team = of("game 1 2 2 " + cards + ";deck" + " a1".repeat(2 * cards) + " a2 a2");
+            due("all of " + cards + " cards", team.tells(0, 1, 1), cards);
+            due("all of " + cards + " cards", team.tells(1, 1, 1), cards);
+            due("none of " + cards + " cards", team.tells(1, 0, 0), 0);
+        }
+        HintTeam last = of("game 1 2 2 5;deck a2 a2 a2 a2 a2 a2 a2 a2 a2 a1 a1");
+        due("the card at place 4", last.tells(1, 1, 1), 1);
+    }
+
+    private static void tellsByValues() {
+        // Player 1 has d1 and thinks a1, a2 and d1 possible: a color leaves d1 alone if it is a or d.
+        HintTeam colors = of("game 4 2 2 1;deck a2 d1 a2 d1 a1");
+        int[] due = {1, 0, 0, 1};
+        for (int color = 0; color < 4; color++) {
+            due("color " + color, colors.tells(1, 0, color), due[color]);
+        }
+        // Player 1 has a1 and thinks all ranks possible.
+        HintTeam ranks = of("game 1 5 2 1;deck a5 a1 a2 a3 a4 a5");
+        for (int rank = 1; rank <= 5; rank++) {
+            due("rank " + rank, ranks.tells(1, 1, rank), rank == 1 ? 1 : 0);
+        }
+        // Behind a1 player 1, who has a2, thinks a2 and a3 possible.
+        HintTeam next = of("game 1 3 2 1;deck a1 a2 a3 a3");
+        next.play(0);
+        for (int rank = 1; rank <= 3; rank++) {
+            due("rank " + rank, next.tells(1, 1, rank), rank == 1 ? 0 : 1);
+        }
     }
 
     private static void advised(String what, HintTeam team, int kind, int target, int word, int value) {
@@ -538,6 +622,47 @@ final class MindEdges extends Edges {
             }
             fails("advice(4)", ARGUMENT, () -> team.advice(4));
             fails("advice(-1)", ARGUMENT, () -> team.advice(-1));
+        }
+    }
+
+    /** A turn that is followed is the one that is advised, in all that can be asked of it. */
+    private static void followsAdvice() {
+        String colors = "game 4 2 2 1;deck a2 d1 a2 d1 a1";
+        follows("color 3", of(colors), of(colors), team -> team.hint(1, 0, 3));
+        String ranks = "game 2 2 2 2;deck b2 b2 a1 b2 a2 a1 b1 b1;rank 1 0";
+        follows("rank 2", of(ranks), of(ranks), team -> team.hint(1, 1, 2));
+        String fourth = "game 2 2 4 1;deck b2 b2 b2 a1 a1 a1 a2 b1";
+        follows("rank 1 to player 3", of(fourth), of(fourth), team -> team.hint(3, 1, 1));
+        String untouched = "game 2 3 2 3;deck a3 b2 b3 b3 b3 b3 a1 b1 a2 a1 b1";
+        follows("to discard place 2", touchedTwice(untouched), touchedTwice(untouched), team -> team.discard(2));
+        follows("to discard place 0", of(untouched), of(untouched), team -> team.discard(0));
+        String last = "game 2 2 2 3;deck b2 a2 b1 a2 a2 b2 a1 b1 a1";
+        follows("to play place 2", toldOfOnes(last), toldOfOnes(last), team -> team.play(2));
+    }
+
+    /** Player 0 was told of a3 and b2, but not of b3. */
+    private static HintTeam touchedTwice(String text) {
+        HintTeam team = of(text);
+        team.hint(1, 1, 3);
+        team.hint(0, 0, 0);
+        team.hint(1, 0, 1);
+        team.hint(0, 1, 2);
+        return team;
+    }
+
+    private static HintTeam toldOfOnes(String text) {
+        HintTeam team = of(text);
+        team.hint(1, 1, 2);
+        team.hint(0, 1, 1);
+        return team;
+    }
+
+    private static void follows(String what, HintTeam team, HintTeam other, Consumer<HintTeam> turn) {
+        due("turns", team.follow(1), 1);
+        turn.accept(other);
+        due(what, seenGame(team), seenGame(other));
+        for (int part = 0; part < 4; part++) {
+            due(what + ", part " + part, team.logPart(0, part), other.logPart(0, part));
         }
     }
 

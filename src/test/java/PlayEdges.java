@@ -169,6 +169,15 @@ final class PlayEdges extends Edges {
         HintTeam one = of("game 1 2 2 1;deck a1 a2 a2");
         one.play(0);
         due("a hand of one card", handOf(one, 0), "2");
+        String[] left = {"2 3 4 5 11", "1 3 4 5 11", "1 2 4 5 11", "1 2 3 5 11", "1 2 3 4 11"};
+        for (int place = 0; place < 5; place++) {
+            HintTeam five = of("game 2 5 2 5;deck a1 a2 a3 a4 a5 a1 a2 a3 a4 a5 b1 b1");
+            five.discard(place);
+            due("behind place " + place + " of five", handOf(five, 0), left[place]);
+            due("the other hand", handOf(five, 1), "1 2 3 4 5");
+            five.discard(place);
+            due("behind place " + place + " of five", handOf(five, 1), left[place]);
+        }
     }
 
     private static void rounds() {
@@ -407,6 +416,27 @@ final class PlayEdges extends Edges {
         HintTeam lost = of("game 2 2 2 1;deck a2 a1 a1");
         lost.play(0);
         due("behind a card that is lost", lost.count(9), 2);
+        hintsInLastRounds();
+    }
+
+    /** Whoever begins the last round, each one can give a hint to each other one in it. */
+    private static void hintsInLastRounds() {
+        for (int first = 0; first < 4; first++) {
+            HintTeam team = of("game 1 2 4 1;deck" + " a2".repeat(8 + first) + ";tokens 9 9");
+            while (team.count(9) == NONE) {
+                team.discard(0);
+            }
+            due("the last round begins", team.turnOf(), first);
+            for (int k = 0; k < 4; k++) {
+                int self = (first + k) % 4;
+                for (int more = 1; more < 4; more++) {
+                    due("player " + self + ", " + more + " ahead", team.hint((self + more) % 4, 1, 2), 1);
+                    team.undo();
+                }
+                team.hint((self + 1) % 4, 1, 2);
+            }
+            due("over", team.over(), 3);
+        }
     }
 
     private static void lastRoundAtOnce() {
@@ -572,6 +602,18 @@ final class PlayEdges extends Edges {
         copies(team, 0, 1, 4, 2, 1, 0);
         copies(team, 1, 2, 3, 0, 3, 0);
         copies(of("game 1 1 2 1;deck" + " a1".repeat(40)), 0, 1, 40, 0, 2, 38);
+        HintTeam five = of("game 2 2 2 5;deck a1 a1 a1 a1 b2 b2 b2 b2 b2 a1");
+        copies(five, 0, 1, 5, 0, 5, 0);
+        copies(five, 1, 2, 5, 0, 5, 0);
+        five.discard(4);
+        copies(five, 0, 1, 5, 0, 5, 0);
+        copies(five, 1, 2, 5, 1, 4, 0);
+        HintTeam unequal = of("game 2 2 3 2;deck b2 a1 b2 b2 b2 a1");
+        unequal.discard(0);
+        copies(unequal, 0, 1, 2, 0, 2, 0);
+        unequal.discard(0);
+        copies(unequal, 0, 1, 2, 0, 2, 0);
+        copies(unequal, 1, 2, 4, 2, 2, 0);
     }
 
     private static void byHintsAlone() {

@@ -302,6 +302,10 @@ final class ValueEdges extends Edges {
         due("both play", of("game 1 2 2 1;deck a1 a2;tokens 1 0").value(), 2);
         due("the first one cannot", of("game 1 2 2 1;deck a2 a1;tokens 1 0").value(), 1);
         due("all piles", of("game 2 1 2 1;deck a1 b1 a1 b1").value(), 2);
+        for (char color = 'a'; color <= 'd'; color++) {
+            String deck = "deck 11 12 13 14 15".replace(" 1", " " + color);
+            due("color " + color, of("game 4 5 2 1;tokens 1 0;" + deck).value(), 5);
+        }
         due("all piles of four colors", of("game 4 1 4 1;deck a1 b1 c1 d1").value(), 4);
         due("without color 3", of("game 4 1 3 1;deck a1 b1 c1").value(), 3);
         due("without color 2", of("game 4 1 3 1;deck a1 b1 d1").value(), 3);
@@ -317,6 +321,7 @@ final class ValueEdges extends Edges {
         due("a new object", new HintTeam().bound(), 0);
         due("one color", of("game 1 2 2 1;deck a1 a2").bound(), 2);
         due("another color", of("game 4 5 2 1;deck d1 d2 d3").bound(), 3);
+        due("more colors than ranks", of("game 4 1 2 1;deck a1 b1 c1 d1").bound(), 4);
         due("all colors", of("game 4 5 2 1;deck a1 b1 b2 c1 c2 c3 d1 d2 d3 d4").bound(), 10);
         due("all cards",
                 of("game 4 5 2 1;deck a1 a2 a3 a4 a5 b1 b2 b3 b4 b5 c1 c2 c3 c4 c5 d1 d2 d3 d4 d5").bound(), 20);
@@ -396,6 +401,12 @@ final class ValueEdges extends Edges {
         due("a1 is discarded", team.valueBehind(1, 0), 1);
         due("a hint", team.valueBehind(2, 0), 1);
         keeps("valueBehind", team, () -> team.valueBehind(0, 0));
+        // Player 1 has a1, which is the second card of the deck.
+        HintTeam second = of("game 1 2 2 1;deck a2 a1 a2 a2;tokens 1 0");
+        second.discard(0);
+        due("a1 is played, a2 too", second.valueBehind(0, 0), 2);
+        due("the only a1 is discarded", second.valueBehind(1, 0), 0);
+        due("a hint, then player 0 draws the other a2 for a1", second.valueBehind(2, 0), 2);
     }
 
     private static void kindsOfMoves() {
