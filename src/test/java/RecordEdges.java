@@ -481,6 +481,33 @@ final class RecordEdges extends Edges {
         team.undo();
         due("all", team.count(8), 0);
         due("the first card again", team.card(0, 0), 1);
+        HintTeam large = largest();
+        String[] before = new String[4];
+        for (int k = 0; k < 4; k++) {
+            before[k] = hands(large);
+            large.discard(k);
+        }
+        for (int k = 3; k >= 0; k--) {
+            large.undo();
+            due("hands before turn " + k, hands(large), before[k]);
+        }
+    }
+
+    /** Four players with five cards each; 20 others are to be drawn. */
+    private static HintTeam largest() {
+        return of("game 4 5 4 5;deck a1 a2 a3 a4 a5 b1 b2 b3 b4 b5 c1 c2 c3 c4 c5 d1 d2 d3 d4 d5"
+                + " d5 d4 d3 d2 d1 c5 c4 c3 c2 c1 b5 b4 b3 b2 b1 a5 a4 a3 a2 a1");
+    }
+
+    private static String hands(HintTeam team) {
+        StringBuilder text = new StringBuilder();
+        for (int player = 0; player < team.count(2); player++) {
+            for (int place = 0; place < team.hand(player); place++) {
+                text.append(team.card(player, place)).append(' ');
+            }
+            text.append('/');
+        }
+        return text.toString();
     }
 
     private static void latestTwenty() {
@@ -643,6 +670,18 @@ final class RecordEdges extends Edges {
         due("it went on", team.count(8) > 3, true);
         team.restoreSnapshot(1);
         due("all but the turns that can be taken back", seenGame(team), before.replace("\nback 3\n", "\nback 0\n"));
+        HintTeam large = largest();
+        for (int k = 0; k < 4; k++) {
+            large.discard(0);
+        }
+        String dealt = hands(large);
+        large.saveSnapshot(0);
+        large.discard(4);
+        large.discard(3);
+        large.discard(2);
+        large.discard(1);
+        large.restoreSnapshot(0);
+        due("all hands", hands(large), dealt);
     }
 
     private static void notCopied() {
