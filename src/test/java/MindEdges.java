@@ -602,6 +602,10 @@ final class MindEdges extends Edges {
         team.hint(1, 1, 3);
         team.hint(0, 1, 3);
         advised("place 0 of two", team, 1, 0, NONE, NONE);
+        HintTeam useless = of("game 2 3 2 1;deck b3 b3 a3 b1 b2;tokens 2 2");
+        useless.hint(1, 1, 3);
+        useless.hint(0, 1, 3);
+        advised("a card that may be of a useless color", useless, 1, 0, NONE, NONE);
     }
 
     private static void partsOfAdvice() {
